@@ -629,7 +629,7 @@ public final class PoundBeasts {
                 case 0:
                     return told.hasPerson(figure) && somePairIsLeftOf(told, figure);
                 case 1:
-                    return told.hasPerson(figure) && pairIsLeft(told, figures[0], figure);
+                    return told.hasPerson(figure) && told.isPairLeft(figures[0], figure);
                 default:
                     return figure >= 1;
             }
@@ -646,16 +646,11 @@ public final class PoundBeasts {
 
         private static boolean somePairIsLeftOf(Village told, int person) {
             for (int other = 0; other < told.people(); other++) {
-                if (pairIsLeft(told, person, other)) {
+                if (told.isPairLeft(person, other)) {
                     return true;
                 }
             }
             return false;
-        }
-
-        // A debt that has been told is 1 at least, so 0 says that it has not.
-        private static boolean pairIsLeft(Village told, int person, int other) {
-            return person != other && told.debt(person, other) == 0;
         }
 
         private void tell(Village told, int part) {
@@ -728,6 +723,11 @@ public final class PoundBeasts {
 
         int debt(int person, int other) {
             return cells[OWED + person * MOST_PEOPLE + other];
+        }
+
+        // A debt that has been told is 1 at least, so 0 says that it has not.
+        boolean isPairLeft(int person, int other) {
+            return person != other && cells[OWED + person * MOST_PEOPLE + other] == 0;
         }
 
         int ownerOf(int beast) {
