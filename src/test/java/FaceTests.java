@@ -122,16 +122,21 @@ public final class FaceTests {
         return sum + x.each(true) + x.villages(30) + x.seed(9) + x.keep(0) + x.again(0) + x.again(1);
     }
 
-    private static void nothingIsMade() {
+    private static PoundBeasts written() {
         PoundBeasts x = new PoundBeasts();
         for (char letter : "VP25P08P91P00B051B192B140B073B161D018D203D123D311D104".toCharArray()) {
             x.write(letter);
         }
+        return x;
+    }
+
+    private static void nothingIsMade() {
         com.sun.management.ThreadMXBean threads = (com.sun.management.ThreadMXBean) ManagementFactory.getThreadMXBean();
         long sum = 0;
         long least = Long.MAX_VALUE;
         // The machine itself may make something now and then, so the least of several rounds counts.
         for (int round = 0; round < 20; round++) {
+            PoundBeasts x = written();
             long before = threads.getThreadAllocatedBytes(Thread.currentThread().getId());
             sum += dearest(x);
             long after = threads.getThreadAllocatedBytes(Thread.currentThread().getId());
