@@ -390,6 +390,33 @@ final class ActEdges {
         Edge.due(x.beast(3, 4), 1);
     }
 
+    static void promise11_thoseOfOtherDebtorsStay() {
+        PoundBeasts x = Edge.made("VP09P00P09B090B290D019D219");
+        x.drive(1, 0);
+        x.drive(1, 1);
+        Edge.due(x.pay(0, 1, 9), 0);
+        Edge.due(x.count(4), 2);
+        Edge.due(x.beast(1, 3), 1);
+    }
+
+    static void promise11_ofAllFiveOnlyThoseGoHome() {
+        for (int payer = 1; payer <= 3; payer++) {
+            String text = "VP99P99P99P99B0#0B#90B#90B090B#90D#09".replace("#", "" + payer);
+            PoundBeasts x = Edge.made(text);
+            x.drive(0, 1);
+            x.drive(0, 4);
+            Edge.due(x.count(4), 18);
+            Edge.due(x.pay(payer, 0, 9), 0);
+            Edge.due(x.count(4), 0);
+            for (int beast = 0; beast <= 4; beast++) {
+                Edge.due(x.beast(beast, 0), beast == 0 || beast == 3 ? 0 : payer);
+                Edge.due(x.beast(beast, 1), beast == 0 ? payer : 9);
+                Edge.due(x.beast(beast, 3), NONE);
+                Edge.due(x.beast(beast, 4), 0);
+            }
+        }
+    }
+
     static void promise11_ofADebtAbove9NineCanBePaid() {
         PoundBeasts x = Edge.made("VP00P09B093D019");
         for (int i = 0; i < 11; i++) {

@@ -81,6 +81,11 @@ final class ChanceEdges {
         rests(Edge::late, 0, 1, 1, 0);
     }
 
+    static void promise25_beastsOfOtherDebtorsAreNotDriven() {
+        rests(() -> Edge.made("VP00P00P00B290D019D219"), 0, 1, 1, 0);
+        rests(() -> Edge.made("VP00P00P00B290B030D019D219"), 0, 1, 1, 2);
+    }
+
     static void promise25_anOxBehindMarch() {
         rests(() -> Edge.days(Edge.made("VP00P00B091D019"), 2), 0, 1, 1, 0);
         rests(() -> Edge.days(Edge.made("VP00P00B091D019"), 3), 0, 1, 1, 1);

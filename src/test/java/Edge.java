@@ -71,9 +71,12 @@ final class Edge {
         }
     }
 
-    /** The call answers this, and then all is as if it had not been made. */
+    /** The call answers this, as often as it is made, and then all is as if it had not been made. */
     static void changesNothing(Scene scene, long want, Call call) {
-        due(call.on(scene.made()), want);
+        PoundBeasts asked = scene.made();
+        for (int time = 0; time < 3; time++) {
+            due(call.on(asked), want);
+        }
         Scene afterwards = () -> {
             PoundBeasts x = scene.made();
             call.on(x);

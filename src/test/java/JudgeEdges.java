@@ -204,10 +204,12 @@ final class JudgeEdges {
     }
 
     static void promise22_figuresThatMustBe0() {
-        judged(JudgeEdges::march, 1, 103, 0);
-        judged(JudgeEdges::march, 1, 13, 0);
-        judged(() -> shutIn(3), 1, 211, 0);
-        judged(() -> shutIn(3), 1, 212, 0);
+        for (int figure = 1; figure <= 9; figure++) {
+            judged(JudgeEdges::march, 1, 100 * figure + 3, 0);
+            judged(JudgeEdges::march, 1, 10 * figure + 3, 0);
+            judged(() -> shutIn(3), 1, 100 * figure + 11, 0);
+            judged(() -> shutIn(3), 1, 100 * figure + 12, 0);
+        }
     }
 
     // ---- promise 23

@@ -323,6 +323,8 @@ final class LawEdges {
 
     static void promise17_onlyTheDebtorsBeasts() {
         taken(() -> Edge.made("VP90P00P90B290B050D019D219"), 1, 0, 1, 4);
+        taken(() -> Edge.made("VP90P00P90B290D019D219"), 1, 0, NONE, NONE);
+        taken(() -> Edge.made("VP00P00P00B210B020D019D219"), 1, 0, 1, 9);
     }
 
     static void promise17_onlyWhatIsOwedToThatOne() {

@@ -321,11 +321,20 @@ final class TextEdges {
         onlyThese("VP00P00D011D", "1");
         onlyThese(FOUR + "D011D021D031D", "123");
         onlyThese(FOUR + "D301D311D321D", "012");
+        onlyThese("VP00P00D101D", "0");
     }
 
     static void promise04_noPairIsLeft() {
         onlyThese("VP00P00D011D101", "PB");
         onlyThese("VP00P00P00D011D021D101D121D201D211", "PB");
+    }
+
+    static void promise04_onlyOnePairIsLeft() {
+        onlyThese("VP00P00D101", "PBD");
+        onlyThese("VP00P00D011", "PBD");
+        onlyThese("VP00P00P00D011D021D101D121D201", "PBD");
+        onlyThese("VP00P00P00D011D021D101D201D211D", "1");
+        onlyThese("VP00P00P00D011D101D121D201D211D0", "2");
     }
 
     static void promise04_anotherPersonBringsPairs() {

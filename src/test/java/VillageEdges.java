@@ -103,6 +103,16 @@ final class VillageEdges {
         Edge.due(Edge.made("VP00P00").person(0, OWES), 0);
     }
 
+    static void promise06_allHaveMostAndOweNothing() {
+        PoundBeasts x = Edge.made("VP99P99P99P99B093B193B293B393B393");
+        for (int person = 0; person <= 3; person++) {
+            Edge.due(x.person(person, HAY), 9);
+            Edge.due(x.person(person, MONEY), 9);
+            Edge.due(x.person(person, OWES), 0);
+            Edge.due(x.person(person, IS_OWED), 0);
+        }
+    }
+
     static void promise06_isOwedNothingAndMost() {
         Edge.due(isOwedMost().person(0, IS_OWED), 297);
         Edge.due(owesAllMost().person(0, IS_OWED), 3);
@@ -256,6 +266,7 @@ final class VillageEdges {
     static void promise08_itselfItOwesNothing() {
         for (int person = 0; person <= 3; person++) {
             Edge.due(Edge.rich().owes(person, person), 0);
+            Edge.due(Edge.made("VP99P99P99P99B090B190B290B390").owes(person, person), 0);
         }
     }
 
