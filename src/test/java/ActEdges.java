@@ -422,7 +422,7 @@ final class ActEdges {
         for (int i = 0; i < 11; i++) {
             x.drive(1, 0);
         }
-        Edge.due(x.pay(1, 0, 10), OUTSIDE);
+        Edge.refused(x, OUTSIDE, y -> y.pay(1, 0, 10));
         Edge.due(x.pay(1, 0, 9), 90);
     }
 
@@ -504,7 +504,7 @@ final class ActEdges {
     static void promise12_onceOutItIsNotShutIn() {
         PoundBeasts x = shutIn(0, 9, 0);
         x.breakOut(0);
-        Edge.due(x.breakOut(0), STATE);
+        Edge.refused(x, STATE, y -> y.breakOut(0));
         Edge.due(x.owes(0, 1), 12);
     }
 
@@ -547,7 +547,7 @@ final class ActEdges {
         PoundBeasts x = Edge.days(shutIn(9, 5, 0), 3);
         x.breakOut(0);
         x.drive(1, 0);
-        Edge.due(x.forfeit(0), STATE);
+        Edge.refused(x, STATE, y -> y.forfeit(0));
         Edge.days(x, 3);
         Edge.due(x.forfeit(0), 0);
     }
@@ -591,8 +591,8 @@ final class ActEdges {
     static void promise13_onceKeptItIsNotShutIn() {
         PoundBeasts x = Edge.days(shutIn(9, 4, 0), 3);
         x.forfeit(0);
-        Edge.due(x.forfeit(0), STATE);
-        Edge.due(x.breakOut(0), STATE);
+        Edge.refused(x, STATE, y -> y.forfeit(0));
+        Edge.refused(x, STATE, y -> y.breakOut(0));
     }
 
     // ---- promise 14
@@ -611,7 +611,7 @@ final class ActEdges {
         PoundBeasts x = Edge.days(Edge.made("VP00"), 1);
         Edge.due(x.undo(), 0);
         Edge.due(x.count(3), 0);
-        Edge.due(x.undo(), STATE);
+        Edge.refused(x, STATE, y -> y.undo());
     }
 
     static void promise14_fourteenActsAreUndone() {
@@ -621,7 +621,7 @@ final class ActEdges {
             Edge.due(x.undo(), left);
             Edge.due(x.count(3), left);
         }
-        Edge.due(x.undo(), STATE);
+        Edge.refused(x, STATE, y -> y.undo());
     }
 
     static void promise14_ofFifteenTheFirstIsForgotten() {
@@ -631,7 +631,7 @@ final class ActEdges {
             Edge.due(x.undo(), left);
         }
         Edge.due(x.count(3), 1);
-        Edge.due(x.undo(), STATE);
+        Edge.refused(x, STATE, y -> y.undo());
     }
 
     static void promise14_ofManyTheLastFourteenAreLeft() {
@@ -641,7 +641,7 @@ final class ActEdges {
                 Edge.due(x.undo(), left);
             }
             Edge.due(x.count(3), acts - 14);
-            Edge.due(x.undo(), STATE);
+            Edge.refused(x, STATE, y -> y.undo());
         }
     }
 
@@ -656,7 +656,7 @@ final class ActEdges {
             Edge.due(x.undo(), left);
         }
         Edge.due(x.count(3), 3);
-        Edge.due(x.undo(), STATE);
+        Edge.refused(x, STATE, y -> y.undo());
     }
 
     private static void undoes(Edge.Scene before, Edge.Call act) {

@@ -85,6 +85,13 @@ final class Edge {
         same(image(afterwards), image(scene));
     }
 
+    /** The same in the middle of a run: what can be seen without changing it is as it was. */
+    static void refused(PoundBeasts x, long want, Call call) {
+        String before = look(x) + x.count(0) + ' ' + x.fault();
+        due(call.on(x), want);
+        same(look(x) + x.count(0) + ' ' + x.fault(), before);
+    }
+
     /** Numbers that are not from least to most: those right beside, and those farthest off. */
     static int[] beside(int least, int most) {
         return new int[] {least - 1, most + 1, Integer.MIN_VALUE, Integer.MAX_VALUE};

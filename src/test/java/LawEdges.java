@@ -23,8 +23,8 @@ final class LawEdges {
                 Edge.changesNothing(Edge::rich, UNKNOWN, x -> x.clause(person, known));
             }
         }
-        Edge.due(Edge.made("VP00P00B010").clause(2, 0), UNKNOWN);
-        Edge.due(new PoundBeasts().clause(0, 0), UNKNOWN);
+        Edge.changesNothing(() -> Edge.made("VP00P00B010"), UNKNOWN, x -> x.clause(2, 0));
+        Edge.changesNothing(PoundBeasts::new, UNKNOWN, x -> x.clause(0, 0));
     }
 
     static void promise15_noSuchBeast() {
@@ -35,8 +35,8 @@ final class LawEdges {
             }
             Edge.changesNothing(Edge::rich, UNKNOWN, x -> x.clause(beast, beast));
         }
-        Edge.due(Edge.made("VP00P00B010").clause(1, 1), UNKNOWN);
-        Edge.due(Edge.made("VP00P00").clause(0, 0), UNKNOWN);
+        Edge.changesNothing(() -> Edge.made("VP00P00B010"), UNKNOWN, x -> x.clause(1, 1));
+        Edge.changesNothing(() -> Edge.made("VP00P00"), UNKNOWN, x -> x.clause(0, 0));
     }
 
     static void promise15_itsOwnOfEachKindInMarch() {
@@ -154,8 +154,8 @@ final class LawEdges {
             Edge.changesNothing(Edge::rich, UNKNOWN, x -> x.worth(beast, 0));
             Edge.changesNothing(Edge::rich, UNKNOWN, x -> x.worth(beast, 9));
         }
-        Edge.due(Edge.made("VP00B010").worth(1, 0), UNKNOWN);
-        Edge.due(new PoundBeasts().worth(0, 0), UNKNOWN);
+        Edge.changesNothing(() -> Edge.made("VP00B010"), UNKNOWN, x -> x.worth(1, 0));
+        Edge.changesNothing(PoundBeasts::new, UNKNOWN, x -> x.worth(0, 0));
     }
 
     static void promise16_nBelow0OrAbove9IsOutside() {

@@ -111,7 +111,7 @@ final class SlotEdges {
         x.keep(1);
         x.village();
         x.keep(1);
-        Edge.due(x.again(0), STATE);
+        Edge.refused(x, STATE, y -> y.again(0));
         Edge.due(x.again(1), 0);
     }
 
@@ -119,7 +119,7 @@ final class SlotEdges {
         PoundBeasts x = Edge.days(Edge.made("VP00P00"), 3);
         x.keep(0);
         x.write('x');
-        Edge.due(x.village(), STATE);
+        Edge.refused(x, STATE, y -> y.village());
         Edge.due(x.again(0), 3);
     }
 
@@ -142,13 +142,13 @@ final class SlotEdges {
         PoundBeasts x = Edge.late();
         Edge.due(x.again(1), 0);
         Edge.due(x.count(ACTS), 0);
-        Edge.due(x.undo(), STATE);
+        Edge.refused(x, STATE, y -> y.undo());
         Edge.days(x, 15);
         Edge.due(x.count(ACTS), 14);
         for (int left = 13; left >= 0; left--) {
             Edge.due(x.undo(), left);
         }
-        Edge.due(x.undo(), STATE);
+        Edge.refused(x, STATE, y -> y.undo());
         Edge.due(x.count(DAY), 1);
     }
 

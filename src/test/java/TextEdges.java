@@ -47,8 +47,9 @@ final class TextEdges {
             Edge.due(x.count(what), 0);
         }
         for (int what = 0; what <= 5; what++) {
-            Edge.due(x.person(0, what), UNKNOWN);
-            Edge.due(x.beast(0, what), UNKNOWN);
+            int asked = what;
+            Edge.refused(x, UNKNOWN, y -> y.person(0, asked));
+            Edge.refused(x, UNKNOWN, y -> y.beast(0, asked));
         }
     }
 
@@ -137,7 +138,7 @@ final class TextEdges {
         for (int length = 1; length <= 56; length++) {
             Edge.due(x.write(length), length);
         }
-        Edge.due(x.write('V'), FULL);
+        Edge.refused(x, FULL, y -> y.write('V'));
         Edge.due(x.count(0), 56);
     }
 
@@ -180,7 +181,7 @@ final class TextEdges {
         for (int length = 1; length <= 56; length++) {
             Edge.due(x.write('V'), length);
         }
-        Edge.due(x.write('V'), FULL);
+        Edge.refused(x, FULL, y -> y.write('V'));
     }
 
     static void promise03_nothingOfTheOldTextIsLeft() {
@@ -386,8 +387,8 @@ final class TextEdges {
         x.write('V');
         Edge.due(x.village(), 0);
         Edge.due(x.count(1) + x.count(2) + x.count(6), 0);
-        Edge.due(x.person(0, 0), UNKNOWN);
-        Edge.due(x.beast(0, 0), UNKNOWN);
+        Edge.refused(x, UNKNOWN, y -> y.person(0, 0));
+        Edge.refused(x, UNKNOWN, y -> y.beast(0, 0));
     }
 
     static void promise05_fourPeopleAndNoBeasts() {
@@ -435,10 +436,10 @@ final class TextEdges {
         PoundBeasts x = Edge.days(Edge.made("VP00"), 20);
         x.village();
         Edge.due(x.count(7), 0);
-        Edge.due(x.undo(), STATE);
+        Edge.refused(x, STATE, y -> y.undo());
         Edge.due(x.day(), 0);
         Edge.due(x.undo(), 0);
-        Edge.due(x.undo(), STATE);
+        Edge.refused(x, STATE, y -> y.undo());
     }
 
     static void promise05_whatWasKeptIsGone() {
@@ -446,8 +447,8 @@ final class TextEdges {
         x.keep(0);
         x.keep(1);
         x.village();
-        Edge.due(x.again(0), STATE);
-        Edge.due(x.again(1), STATE);
+        Edge.refused(x, STATE, y -> y.again(0));
+        Edge.refused(x, STATE, y -> y.again(1));
     }
 
     static void promise05_theSeedStays() {

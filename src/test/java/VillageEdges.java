@@ -250,8 +250,8 @@ final class VillageEdges {
 
     static void promise08_noSuchPersonOfTwo() {
         for (int person : Edge.beside(0, 1)) {
-            Edge.due(Edge.made("VP00P00").owes(person, 0), UNKNOWN);
-            Edge.due(Edge.made("VP00P00").owes(1, person), UNKNOWN);
+            Edge.changesNothing(() -> Edge.made("VP00P00"), UNKNOWN, x -> x.owes(person, 0));
+            Edge.changesNothing(() -> Edge.made("VP00P00"), UNKNOWN, x -> x.owes(1, person));
         }
     }
 
