@@ -49,7 +49,7 @@ final class Edge {
         return wrong;
     }
 
-    private static void wrong(String what) {
+    static void wrong(String what) {
         wrong++;
         String line = StackWalker.getInstance().walk(frames -> frames
                 .filter(frame -> frame.getClassName().endsWith("Edges"))

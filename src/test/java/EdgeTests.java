@@ -3,7 +3,8 @@ import java.util.TreeMap;
 /** Each sentence of the document that names an edge has a test of its own, named after its promise. */
 public final class EdgeTests {
     private static final Class<?>[] ALL = {
-        TextEdges.class, VillageEdges.class, ActEdges.class, LawEdges.class, JudgeEdges.class, ChanceEdges.class, SlotEdges.class
+        TextEdges.class, VillageEdges.class, ActEdges.class, LawEdges.class, JudgeEdges.class, ChanceEdges.class,
+        SlotEdges.class, LongEdges.class, LongDebtEdges.class
     };
     private static final int PROMISES = 31;
 

@@ -4,8 +4,12 @@ import java.util.Random;
 
 /** Long runs of calls, drawn by fixed seeds: the class must answer what the model answers. */
 public final class ModelTests {
-    private static final int RUNS = 1500, CALLS = 512, FAULT_RUNS = 150;
+    private static final int RUNS = 1500, CALLS = 512, FAULT_RUNS = 150, FAR_RUNS = 60;
     private static final int MOST_SHOWN = 5;
+    /** What a far run drives on, and how far count must have come in one of them at least. */
+    private static final int DEBTS = 0, DAYS = 1, ACTS = 2, SLOTS = 3, SEEDS = 4, KINDS = 5;
+    private static final int[] COUNTED = {6, 3, 7}, FAR = {12 * 99, 320, 14};
+    private static final int[] reached = new int[COUNTED.length];
     private static int wrong;
 
     private final Random random;
@@ -23,6 +27,15 @@ public final class ModelTests {
         }
         for (int run = 0; run < FAULT_RUNS && wrong < MOST_SHOWN; run++) {
             new ModelTests(RUNS + run).faultRun();
+        }
+        for (int run = 0; run < FAR_RUNS * KINDS && wrong < MOST_SHOWN; run++) {
+            new ModelTests(RUNS + FAULT_RUNS + run).farRun(run % KINDS);
+        }
+        for (int i = 0; i < FAR.length; i++) {
+            if (reached[i] < FAR[i]) {
+                wrong++;
+                System.out.println("count(" + COUNTED[i] + ") came to " + reached[i] + " alone, not to " + FAR[i]);
+            }
         }
         System.out.println(wrong == 0 ? "class and model agree" : wrong + " runs in which they do not");
         if (wrong != 0) {
@@ -220,6 +233,62 @@ public final class ModelTests {
             default:
                 return same("chance(" + m + ", " + tenths + ", " + flag + ")",
                         x.chance(m, tenths, flag), model.chance(m, tenths, flag));
+        }
+    }
+
+    /** All 512 calls, most of which drive one thing on as far as it goes. */
+    private void farRun(int kind) {
+        String text = kind == DEBTS ? manyGuests() : village();
+        if (!writeAll(text) || !same("village()", x.village(), model.village())) {
+            return;
+        }
+        for (int call = text.length() + 1; call < CALLS; call++) {
+            boolean good = draw(4) > 0 ? driveOn(kind) : draw(2) == 0 ? look() : law();
+            if (!good) {
+                return;
+            }
+        }
+        // The object's calls are over, so the model, which agreed in all of them, is asked.
+        for (int i = 0; i < COUNTED.length; i++) {
+            reached[i] = Math.max(reached[i], model.count(COUNTED[i]));
+        }
+    }
+
+    private String manyGuests() {
+        StringBuilder text = new StringBuilder("V");
+        for (int p = 0; p < 4; p++) {
+            text.append('P').append(draw(10)).append(draw(10));
+        }
+        for (int p = 0; p < 4; p++) {
+            text.append('B').append(p).append(7 + draw(3)).append(3);
+        }
+        for (int i = 0; i < 4; i++) {
+            for (int j = i + 1; j < 4; j++) {
+                text.append('D').append(draw(2) == 0 ? "" + i + j : "" + j + i).append(1 + draw(9));
+            }
+        }
+        return text.toString();
+    }
+
+    private boolean driveOn(int kind) {
+        int p = draw(4);
+        int b = draw(5);
+        int s = draw(2);
+        switch (kind) {
+            case DEBTS:
+                return draw(12) == 0 ? act() : same("drive(" + p + ", " + b + ")", x.drive(p, b), model.drive(p, b));
+            case DAYS:
+                return draw(12) == 0 ? act() : same("day()", x.day(), model.day());
+            case ACTS:
+                return draw(2) == 0 ? act() : same("undo()", x.undo(), model.undo());
+            case SLOTS:
+                return draw(2) == 0 ? act() : draw(3) == 0
+                        ? same("keep(" + s + ")", x.keep(s), model.keep(s))
+                        : same("again(" + s + ")", x.again(s), model.again(s));
+            case SEEDS:
+            default:
+                int m = 1 + draw(30);
+                return draw(4) == 0 ? act() : same("villages(" + m + ")", x.villages(m), model.villages(m));
         }
     }
 
