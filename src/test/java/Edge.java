@@ -189,6 +189,42 @@ final class Edge {
         return all.append(" acts ").append(x.count(7)).append('\n').toString();
     }
 
+    /** What person, beast, owes and count tell, each by a name of its own. */
+    private static TreeMap<String, Integer> named(PoundBeasts x) {
+        TreeMap<String, Integer> all = new TreeMap<>();
+        String[] counted = {"letters", "people", "beasts", "day", "shut", "dead", "owed", "acts"};
+        for (int what = 0; what < counted.length; what++) {
+            all.put(counted[what], x.count(what));
+        }
+        for (int person = 0; person < x.count(1); person++) {
+            all.put("hay" + person, x.person(person, 0));
+            all.put("money" + person, x.person(person, 1));
+            for (int other = 0; other < x.count(1); other++) {
+                all.put("owes" + person + other, x.owes(person, other));
+            }
+        }
+        String[] ofBeasts = {"owner", "worth", "kind", "holder", "days"};
+        for (int beast = 0; beast < x.count(2); beast++) {
+            for (int what = 0; what < ofBeasts.length; what++) {
+                all.put(ofBeasts[what] + beast, x.beast(beast, what));
+            }
+        }
+        return all;
+    }
+
+    /** The call answers this, and what can be seen is then as told here, in the order of names, and else as before. */
+    static void changes(PoundBeasts x, Call call, long want, String changes) {
+        TreeMap<String, Integer> before = named(x);
+        due(call.on(x), want);
+        StringBuilder found = new StringBuilder();
+        named(x).forEach((name, now) -> {
+            if (!now.equals(before.get(name))) {
+                found.append(found.length() == 0 ? "" : " ").append(name).append('=').append(now);
+            }
+        });
+        same(found.toString(), changes);
+    }
+
     /**
      * All that can ever be seen of what the scene makes: now, each act undone, each slot, the text, the
      * seed. Each is looked at on an object of its own, since looking there changes it.

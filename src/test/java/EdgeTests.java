@@ -4,7 +4,7 @@ import java.util.TreeMap;
 public final class EdgeTests {
     private static final Class<?>[] ALL = {
         TextEdges.class, VillageEdges.class, ActEdges.class, LawEdges.class, JudgeEdges.class, ChanceEdges.class,
-        SlotEdges.class, LongEdges.class, LongDebtEdges.class
+        SlotEdges.class, ChangeEdges.class, LongEdges.class, LongDebtEdges.class
     };
     private static final int PROMISES = 31;
 

@@ -40,6 +40,7 @@ public final class FaceTests {
         constants();
         classesInside();
         source();
+        methodsAreShort();
         nothingIsMade();
         System.out.println(wrong == 0 ? "the face is as due" : wrong + " things are not as due");
         if (wrong != 0) {
@@ -108,6 +109,22 @@ public final class FaceTests {
             boolean known = made.matches("(?s)(int\\[|Script\\(|Village\\(|Acts\\(|Matching\\(|Rings\\(|Bargain\\().*");
             due("what is made: " + made.lines().findFirst().orElse(""), known || made.startsWith("import"), true);
         }
+    }
+
+    private static void methodsAreShort() throws Exception {
+        List<String> lines = Files.readAllLines(Path.of(SOURCE));
+        Pattern head = Pattern.compile("( {4}| {8})(?:(?:public|private|static) )*[\\w\\[\\]]+ (\\w+)\\((.*)\\) \\{");
+        int found = 0;
+        for (int at = 0; at < lines.size(); at++) {
+            Matcher method = head.matcher(lines.get(at));
+            if (method.matches()) {
+                found++;
+                int end = at + lines.subList(at, lines.size()).indexOf(method.group(1) + "}");
+                due("sixty lines at most: " + method.group(2), end > at && end - at < 60, true);
+                due("seven parameters at most: " + method.group(2), method.group(3).split(",").length <= 7, true);
+            }
+        }
+        due("methods found in the source", found > 100, true);
     }
 
     private static long dearest(PoundBeasts x) {

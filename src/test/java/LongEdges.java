@@ -292,13 +292,14 @@ final class LongEdges {
 
     // ---- ACTS
 
-    static void promise14_ofAllThatTheCallsTakeTheLastFourteen() {
-        LongRun run = LongRun.of("V").days(494);
-        Edge.due(run.call().count(ACTS), 14);
-        for (int left = 13; left >= 0; left--) {
-            Edge.due(run.call().undo(), left);
+    static void promise14_behindAnyNumberOfActsTheLastFourteen() {
+        for (int acts = 0; acts <= 495; acts++) {
+            LongRun run = LongRun.of("V").days(acts);
+            for (int left = Math.min(14, acts) - 1; left >= 0; left--) {
+                Edge.due(run.call().undo(), left);
+            }
+            Edge.due(run.call().count(DAY), Math.max(0, acts - 14));
         }
-        Edge.due(run.call().count(DAY), 480);
     }
 
     static void promise14_upAndDownTillTheLastCall() {
