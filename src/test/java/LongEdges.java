@@ -465,6 +465,16 @@ final class LongEdges {
         Edge.due(run.call().seed(0), after(0, 30 * 511));
     }
 
+    static void promise28_theSeedComesToBothEndsOfALongAndToItsMiddle() {
+        for (long wanted : new long[] {0, 1, -1, Long.MIN_VALUE, Long.MAX_VALUE, 1L << 33, (1L << 33) - 1}) {
+            BigInteger ahead = BigInteger.valueOf(wanted).subtract(STEP).multiply(FACTOR.modInverse(WORD));
+            LongRun run = LongRun.of("VP90P00B040D019");
+            run.call().seed(ahead.longValue());
+            Edge.due(run.call().villages(1), 9);
+            Edge.due(run.call().seed(0), wanted);
+        }
+    }
+
     static void promise28_theSeedIsToldAllAlongTheWay() {
         LongRun run = LongRun.of(Edge.RICH);
         long seed = Long.MIN_VALUE;
